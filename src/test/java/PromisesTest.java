@@ -285,6 +285,25 @@ public final class PromisesTest {
         dues("full", FULL, x.edition(), 1, x.count(5), 60, x.count(2));
     }
 
+    /** The last bar of the last voice goes all the way into an edition, and its errata with it. */
+    private static void lastBars() {
+        EngraversHouse x = new EngraversHouse();
+        x.author();
+        x.score(0, 2, 4);
+        for (int k = 0; k < 20; k++) {
+            x.note(0, 3, 10 + k, 2, 0);
+        }
+        x.part(0, 3, 2);
+        x.plate(1, 12, 19);
+        x.plate(1, 0, 0);
+        x.press(2);
+        dues("the last bar", 3 + 1, x.edition(), 129004, x.printed(4, 3, 19, 0, 0), 122004, x.printed(4, 3, 12, 0, 0), -5, x.printed(4, 3, 11, 0, 0),
+                -5, x.printed(4, 2, 19, 0, 0), 5, x.erratum(4, 3, 19, 0, 29, 30), 0, x.idle(5), 130004, x.printed(4, 3, 19, 0, 1), 29, x.alter(0, 3, 19, 0, 31),
+                1, x.differs(2, 0), 19, x.differs(2, 1), 133004, x.heard(1, 19, 0));
+        x.press(3);
+        dues("changes of the last bars", 6, x.edition(), 8, x.changes(4, 6, 3), 8, x.changes(4, 6, -1), 0, x.changes(4, 6, 2), 4, x.hangs(6));
+    }
+
     private static void p20to22() {
         promise = 20;
         EngraversHouse x = house();
@@ -307,6 +326,7 @@ public final class PromisesTest {
         x.press(2);
         x.edition();
         due(111004, x.printed(8, 0, 1, 0, 0), "by the one told last");
+        lastBars();
         promise = 21;
         dues("erratum", NONE, x.erratum(9, 0, 0, 0, 1, 1), NONE, x.erratum(2, 4, 0, 0, 1, 1), NONE, x.erratum(7, -1, 99, 0, 1, 1),
                 CAST, x.erratum(2, 0, 20, 0, 1, 1), BAD, x.erratum(7, 0, 20, 0, 1, 1), BAD, x.erratum(7, 0, -1, 0, 1, 1), BAD, x.erratum(7, 0, 0, 8, 1, 1),
@@ -428,7 +448,7 @@ public final class PromisesTest {
             {"as 1 if y<x", 10}, {"as 1 if y<1234", 13}, {"as 1 if z", 8}, {"as 1 if !!!!!!x", 13}, {"as 1 if !(!(!(x)))", 13},
             {"as 1 if !(!(!x", 14}, {"as 1 if ((((((", 13}, {"as 1 if (!(!((", 13}, {"life", 4}, {"lift 1", 3}, {"life1", 4}, {"life  1", 5}, {"life 1 ", 6},
             {"life 1 if x", 6}, {"life 1234", 8}, {"least", 5}, {"leas 1", 4}, {"lo", 1}, {"l", 1}, {"least x", 6}, {";", 0}, {"as 1;;", 5},
-            {"as 1;as 1;as 1;as 1;as 1;as 1;as 1;as 1;as 1", 39}, {"as 1;as 1;as 1;as 1;as 1;as 1;as 1;as 1;", 39}, {" as 1", 0}, {"as -1", 3},
+            {"as 1;as 1;as 1;as 1;as 1;as 1;as 1;as 1;as 1", 39}, {"as 1;as 1;as 1;as 1;as 1;as 1;as 1;as 1;", 39}, {" as 1", 0}, {"as -1", 3}, {"as :", 3}, {"as 1:", 4}, {"as /", 3}, {"as 1/", 4}, {"as 1 if y;1", 9}, {"as 1 if y<1:", 11},
             {"as 1\u0000", 4}, {"as 1 if x\u00e9", 9}, {"sa 1", 0}, {"aa 1", 1}};
         for (Object[] row : faults) {
             String told = (String) row[0];
@@ -459,11 +479,15 @@ public final class PromisesTest {
                 -5, x.lawful(4, 0, 0), -5, x.lawful(-1, 0, 0), -5, x.lawful(1, -1, 0), -5, x.lawful(1, 10000, 0), -5, x.lawful(1, 0, 4), -5, x.lawful(1, 0, -1));
         contract(x, 1, 100, "life 5;as 1;least 7;rh 2 if x;life 6");
         dues("the last such clause", 4, x.lawful(1, 200, 0), 6, x.lawful(1, 200, 1), 7, x.lawful(1, 200, 2), 2, x.lawful(1, 200, 3));
+        contract(x, 3, 100, "life 8");
+        contract(x, 3, 50, "life 9");
+        dues("the greatest such day ahead of the latest", 5, x.lawful(3, 100, 0), 8, x.lawful(3, 9999, 1), 6, x.lawful(3, 99, 0), 9, x.lawful(3, 50, 1), -1, x.lawful(3, 49, 0));
         promise = 29;
         x.author();
         x.author();
         x.pass(60);
         x.died(0, 60);
+        dues("right in the last land", 1, x.right(0, 3, 100 + 365 * 8 - 41), 0, x.right(0, 3, 60 + 365 * 8), 1, x.right(1, 3, 0));
         dues("right", NONE, x.right(2, 0, 0), NONE, x.right(-1, 0, 0), NONE, x.right(0, 4, -1), NONE, x.right(0, -1, 0), BAD, x.right(0, 0, -1),
                 BAD, x.right(0, 0, 10000), 1, x.right(1, 0, 9999), 1, x.right(0, 0, 60 + 3649), 0, x.right(0, 0, 60 + 3650), 1, x.right(0, 2, 59),
                 0, x.right(0, 2, 60), 1, x.right(0, 2, 0), 1, x.right(0, 1, 60), 1, x.right(0, 1, 60 + 2189), 0, x.right(0, 1, 60 + 2190));
@@ -482,6 +506,7 @@ public final class PromisesTest {
                 NONE, x.paid(0, -1, 0, 0, 0, 0, 0), CAST, x.paid(3, 0, -1, 9, -1, -1, 0), BAD, x.paid(0, 0, -1, 0, 0, 0, 0), BAD, x.paid(0, 0, 10000, 0, 0, 0, 0),
                 BAD, x.paid(0, 0, 0, 3, 0, 0, 0), BAD, x.paid(0, 0, 0, -1, 0, 0, 0), BAD, x.paid(0, 0, 0, 0, -1, 0, 0), BAD, x.paid(0, 0, 0, 0, 100001, 0, 0),
                 BAD, x.paid(0, 0, 0, 0, 0, -1, 0), BAD, x.paid(0, 0, 0, 0, 0, 1000, 0), 100000, x.paid(0, 0, 9999, 2, 100000, 999, 2));
+        dues("paid in the last land", 7, x.paid(0, 3, 0, 0, 7, 0, 2), 0, x.paid(0, 3, 0, 0, 7, 0, 0));
         contract(x, 0, 0, "as 333;ah 100 if m<10&m>4;rs 500;rs 600 if y<1;least 9;ap 0;rp 0 if !x");
         dues("a sale", 33, x.paid(0, 0, 0, 0, 101, 0, 0), 0, x.paid(0, 0, 0, 0, 101, 0, 1), 68, x.paid(0, 0, 0, 0, 101, 0, 2), 33, x.paid(1, 0, 0, 0, 101, 0, 0),
                 68, x.paid(1, 0, 0, 0, 101, 0, 1), 0, x.paid(1, 0, 0, 0, 101, 0, 2), 9, x.paid(0, 0, 0, 0, 10, 0, 0), 1, x.paid(0, 0, 0, 0, 10, 0, 2),
@@ -685,7 +710,7 @@ public final class PromisesTest {
         EngraversHouse x = new EngraversHouse();
         dues("tape", NONE, x.tape(6, 9, 99), NONE, x.tape(-1, 0, 1), BAD, x.tape(0, 4, -1), BAD, x.tape(0, -2, 0), BAD, x.tape(0, 0, 61), SIZE, x.tape(0, 3, -1), SIZE, x.tape(0, 0, MIN),
                 NOTHING, x.item(0, 0, 1), 1, x.tape(0, 2, 60), 1, x.item(0, 59, 7), 7, x.read(0, 59), 1, x.tape(0, 2, 60), 0, x.read(0, 59), 1, x.tape(0, 1, 0),
-                PLACE, x.item(0, 0, 1), 1, x.tape(0, -1, 99), NOTHING, x.item(0, 0, 1), 1, x.tape(5, -1, -99), SIZE, x.tape(5, 1, -1));
+                PLACE, x.item(0, 0, 1), 1, x.tape(0, 2, 5), 1, x.tape(0, -1, 99), NOTHING, x.item(0, 0, 1), Long.MIN_VALUE, x.read(0, 0), 1, x.tape(5, -1, -99), SIZE, x.tape(5, 1, -1));
         promise = 48;
         for (int sort = 0; sort < 4; sort++) {
             x.tape(sort, sort, 3);
